@@ -802,7 +802,7 @@ public final class TextRows {
             return size;
         }
 
-        boolean comes(int sign) {
+        private boolean comes(int sign) {
             return next < signCount && signs[next] == sign;
         }
 
@@ -814,19 +814,15 @@ public final class TextRows {
             return Math.min(size, SIZE + 1);
         }
 
+        /** A sum is as great as all items of all its rows, so | adds nothing to it. */
         private int readSum(int depth) {
-            int size = readRow(depth);
-            for (int rows = 1; rows <= SIGNS && goesOn() && signs[next] == '|'; rows++) {
-                next++;
-                size = bounded(size + readRow(depth));
-            }
-            return size;
-        }
-
-        private int readRow(int depth) {
             int size = 0;
-            for (int items = 0; items < SIGNS && goesOn() && signs[next] != '|' && signs[next] != ')'; items++) {
-                size = bounded(size + readItem(depth));
+            for (int parts = 0; parts < SIGNS && goesOn() && signs[next] != ')'; parts++) {
+                if (signs[next] == '|') {
+                    next++;
+                } else {
+                    size = bounded(size + readItem(depth));
+                }
             }
             return size;
         }
@@ -862,14 +858,23 @@ public final class TextRows {
                     addBytes(first, 0, BYTES - 1);
                     next++;
                     return 1;
-                case ']', '{', '}', '*', '+', '?':
+                case ']':
+                case '{':
+                case '}':
+                case '*':
+                case '+':
+                case '?':
                     wrong = first;
                     return 0;
                 default:
-                    int c = readByte();
-                    addBytes(first, c, c);
+                    readPlain(first);
                     return 1;
             }
+        }
+
+        private void readPlain(int first) {
+            int c = readByte();
+            addBytes(first, c, c);
         }
 
         private int readBrackets(int depth) {
@@ -984,20 +989,15 @@ public final class TextRows {
             int to = from;
             if (wrong == NONE && comes(',')) {
                 next++;
-                to = comes('}') ? WITHOUT_END : readSecondNumber(from);
+                int second = next;
+                to = comes('}') ? WITHOUT_END : readNumber();
+                if (wrong == NONE && to != WITHOUT_END && to < from) {
+                    wrong = second;
+                }
             }
             least[first] = from;
             most[first] = to;
             readSign('}');
-        }
-
-        private int readSecondNumber(int from) {
-            int second = next;
-            int to = readNumber();
-            if (wrong == NONE && to < from) {
-                wrong = second;
-            }
-            return to;
         }
 
         private int readNumber() {
