@@ -1602,15 +1602,15 @@ public final class TextRows {
             int first = index.firsts[d];
             int found = 0;
             while (first < end) {
-                int period = periodOfWords(first, end);
-                int alikeEnd = endOfWords(first, end, period);
-                while (first + period <= alikeEnd) {
+                int period = Math.max(periodOfWords(first, end), 1);
+                int last = endOfWords(first, end, period) - period;
+                do {
                     if (found == k) {
                         return first;
                     }
                     found++;
                     first += period;
-                }
+                } while (first <= last);
             }
             return k == -1 ? found : BAD;
         }

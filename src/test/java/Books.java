@@ -1,5 +1,3 @@
-import java.util.List;
-
 /** Writes texts into a TextRows by its own calls; characters are bytes. */
 final class Books {
     private Books() {
@@ -52,9 +50,5 @@ final class Books {
             text.append((char) x.patternByte(i));
         }
         return text.toString();
-    }
-
-    static String repeat(List<String> parts, int times) {
-        return String.join("", parts).repeat(times);
     }
 }
