@@ -24,6 +24,10 @@ final class Check {
         }
     }
 
+    int looked() {
+        return looked;
+    }
+
     boolean hasFailed() {
         return wrong > 0;
     }

@@ -54,11 +54,23 @@ public final class LimitsTest {
         books.add(new String[] {"a".repeat(2999)});
         books.add(new String[] {letters.toString()});
         books.add(new String[] {bytes.toString()});
+        books.add(new String[] {onePairTwice()});
         books.add(new String[] {fibonacci.substring(0, 2999)});
         books.add(new String[] {"a".repeat(1499), "a".repeat(1499)});
         books.add(new String[] {"a".repeat(1499) + "b" + "a".repeat(1499)});
         books.add(forty);
         return books;
+    }
+
+    /** All pairs of neighbours are different but for two: as many ranks as can be are left for one more sorting. */
+    private static String onePairTwice() {
+        StringBuilder text = new StringBuilder();
+        for (int step = 1; text.length() < 2997; step += 2) {
+            for (int i = 0; i < 256 && text.length() < 2997; i++) {
+                text.append((char) (i * step % 256));
+            }
+        }
+        return text.append(text, 0, 2).toString();
     }
 
     private static void fullBook(String[] book) {
