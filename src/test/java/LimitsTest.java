@@ -233,7 +233,8 @@ public final class LimitsTest {
             sum += allCalls(x);
         }
         long made = threads.getThreadAllocatedBytes(thread) - before;
-        CHECK.holds("calls make no objects (" + made + " bytes, " + sum + ")", made < 10_000);
+        CHECK.holds("terms, \"All memory is the class's own, made once.\": calls make none (" + made + " bytes, " + sum
+                + ")", made < 10_000);
     }
 
     private static int allCalls(TextRows x) {

@@ -559,10 +559,16 @@ final class RepeatSentences {
             String half = "c" + "a".repeat(1497) + "b";
             s.due("1,499 bytes, twice", Books.of(1, half + half).square(0), 1499);
         });
-        s.test(45, "0: none, or an END.", () -> {
-            TextRows x = Books.of(1, "ab", "ab", "", "aba");
-            for (int p = 0; p < x.count(0); p++) {
+        s.test(45, "0: none", () -> {
+            TextRows x = Books.of(1, "ab", "ab", "", "aba", "a");
+            for (int p : new int[] {0, 1, 3, 4, 7, 8, 9, 11}) {
                 s.due("square(" + p + "): none, not across ENDs", x.square(p), 0);
+            }
+        });
+        s.test(45, "or an END.", () -> {
+            TextRows x = Books.of(1, "aa", "", "");
+            for (int p : new int[] {2, 3, 4}) {
+                s.due("square(" + p + ")", x.square(p), 0);
             }
         });
         s.test(45, "BAD: none such.", () -> {

@@ -10,9 +10,7 @@ import java.util.function.IntSupplier;
 final class Sentences {
     static final int FACE = Doc.FACE;
     static final int TERMS = Doc.TERMS;
-    static final int BAD = TextRows.BAD;
-    static final int NONE = TextRows.NONE;
-    /** What no call takes for a place, a row or a document; the number of them comes to these. */
+    /** What no call takes for a place, a row or a document, however many there are. */
     private static final int[] WILD = {-1, -2, Integer.MIN_VALUE, Integer.MAX_VALUE};
 
     private final Check check = new Check("SentencesTest");
@@ -71,7 +69,7 @@ final class Sentences {
         for (int i = 0; i < told.length; i++) {
             due(query + ": answered(" + i / 3 + ", " + i % 3 + ")", x.answered(i / 3, i % 3), told[i]);
         }
-        due(query + ": answered one too many", x.answered(told.length / 3, 0), BAD);
+        due(query + ": answered one too many", x.answered(told.length / 3, 0), TextRows.BAD);
     }
 
     /** The query's first wrong sign stands at a place. */
@@ -90,7 +88,7 @@ final class Sentences {
         holds(call + " changes nothing: " + before + " then " + seen(x), seen(x).equals(before));
     }
 
-    /** Numbers from the first one on that are not those of so many things. */
+    /** Numbers that are none of so many things, which are counted from 0 on. */
     static int[] noneOf(int count) {
         int[] wild = new int[WILD.length + 2];
         System.arraycopy(WILD, 0, wild, 0, WILD.length);
