@@ -1080,9 +1080,11 @@ public final class TextRows {
             int row = EMPTY;
             for (int i = 0; i < copies; i++) {
                 int atom = growAtom(first, depth);
-                if (atom != EMPTY) {
-                    skips[atom] |= i >= query.least[first];
-                    loops[atom] |= i == copies - 1 && query.most[first] == Query.WITHOUT_END;
+                if (atom != EMPTY && i >= query.least[first]) {
+                    skips[atom] = true;
+                }
+                if (atom != EMPTY && i == copies - 1 && query.most[first] == Query.WITHOUT_END) {
+                    loops[atom] = true;
                 }
                 row = joined(row, atom);
             }
@@ -1524,7 +1526,7 @@ public final class TextRows {
         }
 
         private boolean mirrored(int left, int right) {
-            return left >= 0 && right < index.size && index.text[left] == index.text[right];
+            return left >= 0 && index.text[left] == index.text[right];
         }
 
         private void learnReaches() {
@@ -1532,7 +1534,7 @@ public final class TextRows {
             int right = -1;
             for (int p = 0; p < index.size; p++) {
                 int reach = p > right ? 1 : Math.min(reaches[left + right - p], right - p + 1);
-                while (mirrored(p - reach, p + reach)) {
+                while (p + reach < index.size && mirrored(p - reach, p + reach)) {
                     reach++;
                 }
                 reaches[p] = reach;
@@ -1548,7 +1550,7 @@ public final class TextRows {
             int right = -1;
             for (int p = 0; p < index.size; p++) {
                 int reach = p > right ? 0 : Math.min(gapReaches[left + right - p + 1], right - p + 1);
-                while (mirrored(p - reach - 1, p + reach)) {
+                while (p + reach < index.size && mirrored(p - reach - 1, p + reach)) {
                     reach++;
                 }
                 gapReaches[p] = reach;

@@ -101,8 +101,8 @@ public final class LanguageTest {
     }
 
     private static void methods(String source) {
-        Matcher heads = Pattern.compile("(?m)^( +)(?:public |private |static |final )*[\\w\\[\\]]+ \\w+\\([^;{]*\\) \\{$")
-                .matcher(source);
+        String head = "(?m)^( +)(?:public |private |static |final )*[\\w\\[\\]]+ \\w+\\([^;{]*\\) \\{$";
+        Matcher heads = Pattern.compile(head).matcher(source);
         int found = 0;
         while (heads.find()) {
             int end = source.indexOf("\n" + heads.group(1) + "}", heads.end());
